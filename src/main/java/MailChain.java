@@ -19,6 +19,7 @@ public final class MailChain {
     private static final int MOST_PLAIN = 16000;
     private static final int LEAST_LENGTH = 40;
     private static final int MOST_LENGTH = 4000;
+    private static final int MOST_INT = 2147483647;
     private static final long MOST_SUM = 4294967295L;
     /** The greatest number that six digits of base 8 can tell. */
     private static final int MOST_SIX_DIGITS = 262143;
@@ -299,19 +300,8 @@ public final class MailChain {
         return had;
     }
 
+    /** Each step back is proved by the step forth, so that readers need not judge all they read. */
     public int unpack() {
-        int wrong = firstWrong();
-        if (wrong == 0) {
-            Tree old = yours;
-            yours = draftOfYours;
-            draftOfYours = old;
-            box.wipe();
-        }
-        return wrong;
-    }
-
-    /** Each step back is proved by the step forth: readers need not judge what they read. */
-    private int firstWrong() {
         if (!box.isWhole()) {
             return PARTS_MISSING;
         }
@@ -334,7 +324,18 @@ public final class MailChain {
             return WRONG_ARCHIVE;
         }
         Archive.write(draftOfYours, proof);
-        return proof.same(plain) ? 0 : WRONG_ARCHIVE;
+        if (!proof.same(plain)) {
+            return WRONG_ARCHIVE;
+        }
+        swapYours();
+        box.wipe();
+        return 0;
+    }
+
+    private void swapYours() {
+        Tree old = yours;
+        yours = draftOfYours;
+        draftOfYours = old;
     }
 
     public int about(int tree, int what, int i)
@@ -396,7 +397,7 @@ public final class MailChain {
 
         /** The byte, or -1 where there is none. */
         int at(int i) {
-            return has(i) ? bytes[i] & 255 : NONE;
+            return i >= 0 && i < size ? bytes[i] & 255 : NONE;
         }
 
         void put(int value) {
@@ -462,9 +463,8 @@ public final class MailChain {
 
         /** Below 0, 0 or above 0, as this row is before, the same as, or behind a beginning. */
         int order(Row other, int otherSize) {
-            int common = Math.min(size, otherSize);
-            for (int i = 0; i < common; i++) {
-                int difference = at(i) - other.at(i);
+            for (int i = 0; i < size && i < otherSize && i < other.size; i++) {
+                int difference = (bytes[i] & 255) - (other.bytes[i] & 255);
                 if (difference != 0) {
                     return difference;
                 }
@@ -866,7 +866,7 @@ public final class MailChain {
                 }
                 value = 8 * value + digit;
             }
-            return value <= Integer.MAX_VALUE ? (int) value : NONE;
+            return value <= MOST_INT ? (int) value : NONE;
         }
     }
 
@@ -1114,17 +1114,14 @@ public final class MailChain {
          */
         static void read(Row text, Row out) {
             out.wipe();
-            for (int at = BEGIN.length(); at < text.size; at += lineSize(text, at)) {
+            for (int at = BEGIN.length(); at < text.size; at += 2) {
                 int count = sixOf(text.at(at));
                 if (count == 0) {
                     return;
                 }
                 readLine(text, at + 1, count, out);
+                at += (count + 2) / 3 * 4;
             }
-        }
-
-        private static int lineSize(Row text, int at) {
-            return 2 + (sixOf(text.at(at)) + 2) / 3 * 4;
         }
 
         private static void readLine(Row text, int at, int count, Row out) {

@@ -52,6 +52,10 @@ final class Model {
         return tape.length();
     }
 
+    int tapeSize() {
+        return tape.length();
+    }
+
     private String readTape() {
         String row = tape;
         tape = "";
@@ -261,6 +265,14 @@ final class Model {
         yours = tree;
         box.clear();
         return 0;
+    }
+
+    /** What unpack() answers when the box holds a text. */
+    static int unpackText(String text) {
+        Model model = new Model();
+        model.boxCount = 1;
+        model.box.put(1, text);
+        return model.unpack();
     }
 
     private TreeMap<String, Node> tree(int tree) {
