@@ -828,18 +828,16 @@ public final class MailChain {
         /** Where the next entry begins, or -1 when there is no entry at that place. */
         private static int readEntry(Row from, int at, Tree tree) {
             int pathStart = at + PATH_AT;
-            int bodyStart = pathStart + octal(from, at + PATH_SIZE_AT, SHORT);
+            int pathSize = octal(from, at + PATH_SIZE_AT, SHORT) - 1;
+            int bodyStart = pathStart + pathSize + 1;
             int bodySize = octal(from, at + BODY_SIZE_AT, LONG);
-            if (bodyStart <= pathStart || bodyStart > from.size
+            if (pathSize < 1 || pathSize > MOST_PATH
                     || bodySize < 0 || bodySize > from.size - bodyStart) {
-                return NONE;
-            }
-            if (bodyStart - pathStart > MOST_PATH + 1) {
                 return NONE;
             }
             int bodyEnd = bodyStart + bodySize;
             Entry draft = tree.draft();
-            draft.path.copy(from, pathStart, bodyStart - 1);
+            draft.path.copy(from, pathStart, pathStart + pathSize);
             readFields(from, at, draft);
             int number = octal(from, at + NUMBER_AT, SHORT);
             int verdict = number == tree.count + 1

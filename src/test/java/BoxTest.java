@@ -72,7 +72,9 @@ public final class BoxTest {
             "PART 1 OF 1 SIZE 4294967297" + sum, "PART -1 OF 1 SIZE 1" + sum,
             "PART 1 OF -1 SIZE 1" + sum, "PART 1 OF 1 SIZE -1" + sum,
             "PART 1 OF 1 SIZE 1 CKSUM -1\n", "PART +1 OF 1 SIZE 1" + sum,
-            "PART x OF 1 SIZE 1" + sum, "PART  OF 1 SIZE 1" + sum, "PART 1 OF  SIZE 1" + sum,
+            "PART : OF 99 SIZE 1" + sum, "PART / OF 99 SIZE 1" + sum,
+            "PART 1 OF 1 SIZE 1 CKSUM :\n", "PART x OF 1 SIZE 1" + sum,
+            "PART  OF 1 SIZE 1" + sum, "PART 1 OF  SIZE 1" + sum,
             "PART 1 OF 1 SIZE " + sum, "PART 1 Of 1 SIZE 1" + sum, "PART 1 OF 1 SIZe 1" + sum,
             "PART 1 OF 1 SIZE 1 CKSUm 5\n", "PART 1 OF 1 SIZE 1 CKSUM 5", "\n"};
         for (String line : wrong) {

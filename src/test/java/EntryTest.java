@@ -85,6 +85,10 @@ public final class EntryTest {
         dueRefused(1, 1, 0, 0, 0, -1);
         dueRefused(1, 1, 0, 0, 0, Integer.MIN_VALUE);
         MailChain chain = new MailChain();
+        for (int kind : new int[] {-1, 3, 4, Integer.MAX_VALUE}) {
+            Check.type(chain, "ab");
+            Check.refused("kind " + kind + " with a body", () -> chain.add(kind, 1, 0, 0, 0, 0));
+        }
         chain.type('a', 1);
         int most = Integer.MAX_VALUE;
         Check.due("add with the greatest", chain.add(1, 1, 4095, most, most, most), 1);
@@ -212,12 +216,13 @@ public final class EntryTest {
 
     private static void linkSharesAll() {
         MailChain chain = new MailChain();
+        Check.file(chain, "z", "first");
         Check.directory(chain, "d");
         Check.type(chain, "mcontent");
         chain.add(1, 1, 0123, 4, 5, 6);
-        Check.due("link d/x", Check.link(chain, 1, "d/x"), 3);
-        Check.due("link a, of the link", Check.link(chain, 1, "a"), 4);
-        Check.due("another file", Check.file(chain, "n", "content"), 5);
+        Check.due("link d/x", Check.link(chain, 1, "d/x"), 4);
+        Check.due("link a, of the link", Check.link(chain, 1, "a"), 5);
+        Check.due("another file", Check.file(chain, "n", "content"), 6);
         for (int i : new int[] {0, 2, 3}) {
             Check.due("kind", chain.about(0, 1, i), 1);
             Check.due("mode", chain.about(0, 2, i), 0123);
@@ -314,6 +319,10 @@ public final class EntryTest {
         Check.typeRepeated(chain, "a", "12345678", 6000);
         Check.due("all room is there", chain.add(1, 1, 0, 0, 0, 0), 1);
         Check.due("its links", chain.about(0, 9, 0), 1);
+        chain.clear();
+        Check.typeRepeated(chain, "b", "abcdefgh", 6000);
+        Check.due("and again", chain.add(1, 1, 0, 0, 0, 0), 1);
+        Check.due("its last byte", chain.byteOf(0, 0, 6000), 'h');
         MailChain typed = new MailChain();
         typed.type('a', 1);
         typed.clear();

@@ -13,6 +13,7 @@ public final class PackTest {
         packOfLinks();
         packHasBounds();
         packRefusesGreatOwners();
+        packRefusesTheFirstOwner();
         packReplaces();
         clearCodes();
         partHasBounds();
@@ -167,6 +168,18 @@ public final class PackTest {
             Check.refused("pack(8, 40)", () -> chain.pack(8, 40));
             chain.clear();
             Check.due("stage 0 is back", chain.stage(0, 0), '0');
+        }
+    }
+
+    private static void packRefusesTheFirstOwner() {
+        for (String path : new String[] {"a", "m", "z"}) {
+            MailChain chain = new MailChain();
+            Check.file(chain, "b", "x");
+            Check.file(chain, "n", "x");
+            Check.type(chain, path);
+            chain.add(1, 1, 0, Integer.MAX_VALUE, 0, 0);
+            Check.due("pack, owner of " + path, chain.pack(9, 40), -1);
+            Check.due("stage 1", chain.stage(1, 0), -1);
         }
     }
 

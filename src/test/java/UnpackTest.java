@@ -8,6 +8,7 @@ public final class UnpackTest {
     public static void main(String[] args) {
         unpackMakesTheTree();
         unpackOfTheGreatestTree();
+        unpackOfWideCodes();
         unpackNeedsAllParts();
         unpackKeepsWhatThereWas();
         unpackJudgesTexts();
@@ -78,6 +79,23 @@ public final class UnpackTest {
         passAll(chain, chain.pack(9, 40));
         Check.due("unpack()", chain.unpack(), 0);
         sameTrees(chain);
+    }
+
+    /** Bytes that no string repeats need all widths that there are. */
+    private static void unpackOfWideCodes() {
+        for (int width = 9; width <= 16; width++) {
+            MailChain chain = new MailChain();
+            StringBuilder content = new StringBuilder();
+            int x = width;
+            for (int i = 0; i < 3500; i++) {
+                x = x * 1103515245 + 12345;
+                content.append((char) (x >>> 16 & 255));
+            }
+            Check.file(chain, "a", content.toString());
+            passAll(chain, chain.pack(width, 4000));
+            Check.due("unpack()", chain.unpack(), 0);
+            Check.same("body", Check.body(chain, 1, 0), content.toString());
+        }
     }
 
     private static void unpackNeedsAllParts() {
