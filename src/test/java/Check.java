@@ -1,7 +1,10 @@
 import java.nio.charset.StandardCharsets;
+import java.util.Arrays;
 
 /** What the tests of the project have in common. */
 final class Check {
+    private static final int MOST_SHOWN = 400;
+
     private static int calls = 0;
     private static int wrong = 0;
 
@@ -21,7 +24,7 @@ final class Check {
         calls++;
         if (got != want) {
             wrong++;
-            System.out.println(what + " answered " + got + ", due is " + want);
+            System.out.println(shown(what) + " answered " + got + ", due is " + want);
         }
     }
 
@@ -36,8 +39,20 @@ final class Check {
         }
         if (!got.equals(want.getSimpleName())) {
             wrong++;
-            System.out.println(what + " threw " + got + ", due is " + want.getSimpleName());
+            System.out.println(shown(what) + " threw " + got + ", due is " + want.getSimpleName());
         }
+    }
+
+    /** Letters that a line can show, and not too many of them. */
+    private static String shown(String text) {
+        StringBuilder letters = new StringBuilder();
+        for (int i = 0; i < text.length() && letters.length() < MOST_SHOWN; i++) {
+            char letter = text.charAt(i);
+            boolean plain = letter >= 32 && letter < 127;
+            letters.append(plain ? "" + letter : String.format("\\%03o", (int) letter));
+        }
+        return letters.length() < MOST_SHOWN ? letters.toString()
+                : letters + ".. (" + text.length() + ")";
     }
 
     static void refused(String what, Deed deed) {
@@ -64,86 +79,85 @@ final class Check {
         return new String(bytes, StandardCharsets.ISO_8859_1);
     }
 
-    static void type(MailChain chain, byte[] bytes) {
-        for (int at = 0; at < bytes.length; at += 8) {
-            int n = Math.min(8, bytes.length - at);
-            long w = 0;
-            for (int i = n - 1; i >= 0; i--) {
-                w = w << 8 | bytes[at + i] & 255;
-            }
-            chain.type(w, n);
-        }
-    }
-
-    static void type(MailChain chain, String letters) {
-        type(chain, bytes(letters));
-    }
-
-    /** Types a text, then repeats the last bytes until so many of them stand there. */
-    static void typeRepeated(MailChain chain, String before, String pattern, int length) {
-        type(chain, before);
-        int first = Math.min(pattern.length(), length);
-        type(chain, pattern.substring(0, first));
-        int done = first;
-        while (done < length) {
-            int whole = done / pattern.length() * pattern.length();
-            int more = Math.min(whole, length - done);
-            if (more == whole) {
-                chain.again(more);
-                done += more;
+    /** Types a row; what stands there already is repeated where that takes fewer calls. */
+    static void type(Chain chain, String letters) {
+        byte[] row = bytes(letters);
+        int at = 0;
+        while (at < row.length) {
+            int n = repeated(row, at);
+            if (n > 8) {
+                chain.again(n);
             } else {
-                // what is missing stands at the beginning of the pattern, not at its end
-                int shift = done - more;
-                done += repeatOrType(chain, pattern, done, more, shift);
+                n = Math.min(8, row.length - at);
+                chain.type(word(row, at, n), n);
             }
+            at += n;
         }
     }
 
-    private static int repeatOrType(
-            MailChain chain, String pattern, int done, int more, int shift) {
-        if (shift % pattern.length() == 0) {
-            chain.again(more);
-            return more;
+    /** How many bytes before a place stand behind it once more. */
+    private static int repeated(byte[] row, int at) {
+        int n = Math.min(at, row.length - at);
+        while (n > 8 && !Arrays.equals(row, at - n, at, row, at, at + n)) {
+            n--;
         }
-        int n = Math.min(more, pattern.length());
-        StringBuilder next = new StringBuilder();
-        for (int i = 0; i < n; i++) {
-            next.append(pattern.charAt((done + i) % pattern.length()));
-        }
-        type(chain, next.toString());
         return n;
     }
 
-    static int file(MailChain chain, String path, String content) {
+    private static long word(byte[] row, int at, int n) {
+        long w = 0;
+        for (int i = n - 1; i >= 0; i--) {
+            w = w << 8 | row[at + i] & 255;
+        }
+        return w;
+    }
+
+    /** The beginning of a pattern that goes on for ever. */
+    static String repeat(String pattern, int length) {
+        return pattern.repeat(length / pattern.length() + 1).substring(0, length);
+    }
+
+    /** A row in which no two bytes stand side by side twice: each of them has its own code. */
+    static String unlike(int length) {
+        StringBuilder row = new StringBuilder();
+        int value = 0;
+        for (int i = 0; i < length; i++) {
+            row.append((char) value);
+            value = value + 2 * (i / 256) + 1 & 255;
+        }
+        return row.toString();
+    }
+
+    static int file(Chain chain, String path, String content) {
         type(chain, path + content);
         return chain.add(1, path.length(), 0644, 10, 20, 30);
     }
 
-    static int directory(MailChain chain, String path) {
+    static int directory(Chain chain, String path) {
         type(chain, path);
         return chain.add(0, path.length(), 0755, 1, 2, 3);
     }
 
-    static int symlink(MailChain chain, String path, String target) {
+    static int symlink(Chain chain, String path, String target) {
         type(chain, path + target);
         return chain.add(2, path.length(), 0777, 0, 0, 9);
     }
 
-    static int link(MailChain chain, int i, String path) {
+    static int link(Chain chain, int i, String path) {
         type(chain, path);
         return chain.link(i);
     }
 
-    static String path(MailChain chain, int tree, int i) {
+    static String path(Chain chain, int tree, int i) {
         return range(chain, tree, i, 0, chain.about(tree, 6, i));
     }
 
-    static String body(MailChain chain, int tree, int i) {
+    static String body(Chain chain, int tree, int i) {
         int path = chain.about(tree, 6, i);
         return range(chain, tree, i, path, path + chain.about(tree, 7, i));
     }
 
-    private static String range(MailChain chain, int tree, int i, int from, int to) {
+    private static String range(Chain chain, int tree, int i, int from, int to) {
         StringBuilder letters = new StringBuilder();
         for (int k = from; k < to; k++) {
             letters.append((char) chain.byteOf(tree, i, k));
@@ -155,11 +169,16 @@ final class Check {
         calls++;
         if (!got.equals(want)) {
             wrong++;
-            System.out.println(what + " answered\n" + got + "\ndue is\n" + want);
+            int at = 0;
+            while (at < got.length() && at < want.length() && got.charAt(at) == want.charAt(at)) {
+                at++;
+            }
+            System.out.println(shown(what) + " answered, from " + at + " on,\n"
+                    + shown(got.substring(at)) + "\ndue is\n" + shown(want.substring(at)));
         }
     }
 
-    static String stage(MailChain chain, int what) {
+    static String stage(Chain chain, int what) {
         StringBuilder letters = new StringBuilder();
         for (int i = 0; chain.stage(what, i) != -1; i++) {
             letters.append((char) chain.stage(what, i));
@@ -167,7 +186,7 @@ final class Check {
         return letters.toString();
     }
 
-    static String part(MailChain chain, int k) {
+    static String part(Chain chain, int k) {
         StringBuilder letters = new StringBuilder();
         for (int i = 0; i < chain.part(k, -1); i++) {
             letters.append((char) chain.part(k, i));

@@ -1,8 +1,11 @@
+import java.lang.reflect.Array;
 import java.lang.reflect.Constructor;
 import java.lang.reflect.Field;
 import java.lang.reflect.Method;
 import java.lang.reflect.Modifier;
 import java.util.Arrays;
+import java.util.Collections;
+import java.util.IdentityHashMap;
 import java.util.Set;
 import java.util.TreeSet;
 
@@ -14,9 +17,11 @@ public final class FaceTest {
         "int stage(int, int)", "int checksum()", "int receive()", "int pass(int, int, int)",
         "void forge(int, int)", "int empty()", "int unpack()", "int about(int, int, int)",
         "int byteOf(int, int, int)"};
-    private static final long MOST_ELEMENTS = 420000;
-    private static final long MOST_OBJECTS = 500;
-    private static final long MOST_BYTES_OF_CALLS = 20000;
+    /** The one room that an object and all that its calls make must share. */
+    private static final long MOST_OBJECTS = 600_000;
+    private static final long MOST_ELEMENTS = 7_300_000;
+    private static final int MOST_CLASSES = 14;
+    private static final int ROUNDS_OF_CALLS = 8;
 
     private FaceTest() {}
 
@@ -24,7 +29,7 @@ public final class FaceTest {
         faceIsTheDocuments();
         nothingElseIsSeen();
         objectIsSmall();
-        callsMakeNothing();
+        callsMakeLittle();
         Check.end();
     }
 
@@ -65,45 +70,62 @@ public final class FaceTest {
             Check.due("private: " + field.getName(),
                     Modifier.isPrivate(field.getModifiers()) ? 1 : 0, 1);
         }
-        for (Class<?> inside : MailChain.class.getDeclaredClasses()) {
-            Check.due("static: " + inside.getName(),
-                    Modifier.isStatic(inside.getModifiers()) ? 1 : 0, 1);
-            for (Method method : inside.getDeclaredMethods()) {
-                Check.due("a name of the face: " + method.getName(),
-                        names.contains(method.getName()) ? 1 : 0, 0);
-            }
+        noPrivateMethodHasANameOf(MailChain.class, names);
+        Class<?>[] inside = MailChain.class.getDeclaredClasses();
+        for (Class<?> each : inside) {
+            boolean seen = Modifier.isPublic(each.getModifiers())
+                    || Modifier.isProtected(each.getModifiers());
+            Check.due("seen: " + each.getName(), seen ? 1 : 0, 0);
+            noPrivateMethodHasANameOf(each, names);
         }
-        Check.due("classes inside", MailChain.class.getDeclaredClasses().length <= 12 ? 1 : 0, 1);
+        Check.due("classes inside", inside.length <= MOST_CLASSES ? 1 : 0, 1);
     }
 
-    /** Adds the objects and arrays that hang on one, then their fields and elements. */
-    private static void count(Object object, long[] sums) throws ReflectiveOperationException {
-        sums[0]++;
-        if (object.getClass().isArray()) {
-            int length = java.lang.reflect.Array.getLength(object);
-            sums[1] += length;
-            for (int i = 0; object instanceof Object[] && i < length; i++) {
-                count(((Object[]) object)[i], sums);
-            }
-            return;
+    private static void noPrivateMethodHasANameOf(Class<?> owner, Set<String> names) {
+        for (Method method : owner.getDeclaredMethods()) {
+            boolean wrong = Modifier.isPrivate(method.getModifiers())
+                    && names.contains(method.getName());
+            Check.due("a name of the face: " + method.getName(), wrong ? 1 : 0, 0);
         }
-        for (Field field : object.getClass().getDeclaredFields()) {
-            if (!Modifier.isStatic(field.getModifiers())) {
-                sums[1]++;
-                field.setAccessible(true);
-                if (!field.getType().isPrimitive() && field.get(object) != null) {
-                    count(field.get(object), sums);
+    }
+
+    private static final class Sums {
+        final Set<Object> seen = Collections.newSetFromMap(new IdentityHashMap<>());
+        long elements = 0;
+
+        /** Adds the objects and arrays that hang on one, and their fields and elements. */
+        void add(Object object) throws ReflectiveOperationException {
+            if (object == null || !seen.add(object)) {
+                return;
+            }
+            if (object.getClass().isArray()) {
+                elements += Array.getLength(object);
+                for (int i = 0; object instanceof Object[] && i < Array.getLength(object); i++) {
+                    add(Array.get(object, i));
+                }
+            } else if (object.getClass().getName().startsWith("MailChain")) {
+                addFields(object);
+            }
+        }
+
+        private void addFields(Object object) throws ReflectiveOperationException {
+            for (Field field : object.getClass().getDeclaredFields()) {
+                if (!Modifier.isStatic(field.getModifiers())) {
+                    elements++;
+                    field.setAccessible(true);
+                    add(field.getType().isPrimitive() ? null : field.get(object));
                 }
             }
         }
     }
 
     private static void objectIsSmall() throws ReflectiveOperationException {
-        long[] sums = new long[2];
-        count(new MailChain(), sums);
-        System.out.println(sums[0] + " objects, " + sums[1] + " fields and elements");
-        Check.due("objects", sums[0] <= MOST_OBJECTS ? 1 : 0, 1);
-        Check.due("elements", sums[1] <= MOST_ELEMENTS ? 1 : 0, 1);
+        Sums sums = new Sums();
+        sums.add(new MailChain());
+        System.out.println(
+                sums.seen.size() + " objects, " + sums.elements + " fields and elements");
+        Check.due("objects", sums.seen.size() <= MOST_OBJECTS ? 1 : 0, 1);
+        Check.due("elements", sums.elements <= MOST_ELEMENTS ? 1 : 0, 1);
     }
 
     private static long allocated() {
@@ -112,17 +134,19 @@ public final class FaceTest {
         return bean.getThreadAllocatedBytes(Thread.currentThread().getId());
     }
 
-    private static void callsMakeNothing() {
+    private static void callsMakeLittle() {
+        manyCalls(new MailChain());
         MailChain chain = new MailChain();
-        manyCalls(chain);
         long before = allocated();
-        for (int i = 0; i < 10; i++) {
+        for (int i = 0; i < ROUNDS_OF_CALLS; i++) {
             manyCalls(chain);
         }
         long bytes = allocated() - before;
-        Check.due("bytes of 500 calls: " + bytes, bytes <= MOST_BYTES_OF_CALLS ? 1 : 0, 1);
+        System.out.println(bytes + " bytes made by calls");
+        Check.due("elements made by calls", bytes / 8 <= MOST_ELEMENTS ? 1 : 0, 1);
     }
 
+    /** Some sixty calls. */
     private static void manyCalls(MailChain chain) {
         chain.clear();
         chain.type('d', 1);
