@@ -29,6 +29,7 @@ public final class EntryTest {
         filesHaveAnyContent();
         entriesAreInOrder();
         shorterPathsComeFirst();
+        refusedPathsHaveNoOrder();
         treesHaveFortyEntries();
         treesHaveSixThousandBytes();
         targetsAreNoContents();
@@ -368,6 +369,24 @@ public final class EntryTest {
                 "a", "a\u0001", "a.", "a/a", "a/b", "a0", "aa", "f", "ff");
         dueOrder(new String[] {SIXTY, SIXTY.substring(1), "p"}, "a", "f", "p",
                 SIXTY.substring(1), SIXTY);
+    }
+
+    /** Nothing of a longer path that was refused counts when a shorter one is compared. */
+    private static void refusedPathsHaveNoOrder() {
+        for (String tail : new String[] {"zzz/b", "!!!/b"}) {
+            Chain chain = new Chain();
+            Check.file(chain, "ab", "");
+            Check.refused("a" + tail, () -> Check.file(chain, "a" + tail, ""));
+            Check.due("a", Check.file(chain, "a", ""), 2);
+            Check.refused("ab" + tail, () -> Check.file(chain, "ab" + tail, ""));
+            Check.noState("ab", () -> Check.file(chain, "ab", ""));
+            Check.refused("abc" + tail, () -> Check.file(chain, "abc" + tail, ""));
+            Check.due("abc", Check.file(chain, "abc", ""), 3);
+            String[] order = {"a", "ab", "abc"};
+            for (int i = 0; i < 3; i++) {
+                Check.same("path " + i, Check.path(chain, 0, i), order[i]);
+            }
+        }
     }
 
     private static Chain forty() {

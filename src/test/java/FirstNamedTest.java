@@ -92,7 +92,8 @@ public final class FirstNamedTest {
 
     private static void linkNamesTheEntryFirst() {
         Chain chain = noRoom();
-        for (String path : new String[] {"", ".", "a/b", "a", "new"}) {
+        for (String path : new String[] {"", ".", "a/b", "a", "new", "p".repeat(61),
+            "p".repeat(8000)}) {
             Check.noIndex("no entry, " + path, () -> Check.link(chain, 40, path));
             Check.noIndex("no entry, " + path, () -> Check.link(chain, -1, path));
         }
@@ -100,7 +101,7 @@ public final class FirstNamedTest {
 
     private static void linkNamesArgumentsSecond() {
         Chain chain = noRoom();
-        for (String path : new String[] {"", ".", "a/b", "a", "new"}) {
+        for (String path : new String[] {"", ".", "a/b", "a", "new", "p".repeat(61)}) {
             Check.refused("of a directory, " + path, () -> Check.link(chain, 1, path));
             Check.refused("of a symlink, " + path, () -> Check.link(chain, 2, path));
         }

@@ -30,8 +30,9 @@ public final class RefusalTest {
     }
 
     /**
-     * All that can be there is there: in MINE d, d/f, d/l (links), m, s; in YOURS the same without
-     * m; three parts of MINE, of which the first and the last are in the box.
+     * All that can be there is there: in MINE d, d/f, d/l (links), m, s, t; in YOURS the same
+     * without m and t; three parts of MINE before t came, of which the first and the last are in
+     * the box.
      */
     private static Chain scene() {
         Chain chain = new Chain();
@@ -46,6 +47,7 @@ public final class RefusalTest {
         Check.due("pack(9, 100)", chain.pack(9, 100), 3);
         Check.due("pass(1, 0, 0)", chain.pass(1, 0, 0), 0);
         Check.due("pass(3, 0, 0)", chain.pass(3, 0, 0), 0);
+        Check.directory(chain, "t");
         return chain;
     }
 
@@ -116,6 +118,9 @@ public final class RefusalTest {
         refusesToAdd("there is d", "d", STATE, 0, 1, 1, 1, 1, 1);
         refusesToAdd("there is d/f", "d/fother", STATE, 1, 3, 1, 1, 1, 1);
         refusesToAdd("there is s", "sother", STATE, 2, 1, 1, 1, 1, 1);
+        // an owner or group that an archive cannot have, of an entry that did not come in
+        refusesToAdd("a great owner, there is d", "d", STATE, 0, 1, 1, 262144, 1, 1);
+        refusesToAdd("a great group, there is d", "d", STATE, 0, 1, 1, 1, 262144, 1);
         refusesToAdd("too many bytes", "n" + Check.repeat("12345678", 6000), ROOM,
                 1, 1, 0, 0, 0, 0);
     }
@@ -126,7 +131,7 @@ public final class RefusalTest {
     }
 
     private static void refusedLink() {
-        refusesToLink("no entry", 5, "a", INDEX);
+        refusesToLink("no entry", 6, "a", INDEX);
         refusesToLink("no entry", -1, "a", INDEX);
         refusesToLink("of a directory", 0, "a", ARGUMENT);
         refusesToLink("of a symlink", 4, "a", ARGUMENT);
@@ -141,7 +146,7 @@ public final class RefusalTest {
     /** MINE has 40 entries; or 6000 bytes. */
     private static void refusedForRoom() {
         Chain many = scene();
-        for (int i = 5; i < 40; i++) {
+        for (int i = 6; i < 40; i++) {
             Check.file(many, "x" + (char) i, "");
         }
         Check.due("entries", many.about(0, 0, 0), 40);
@@ -179,7 +184,7 @@ public final class RefusalTest {
         leavesAll("stage(3, 0)", "tape", ARGUMENT, on -> on.stage(3, 0));
         leavesAll("stage(-1, 0)", "tape", ARGUMENT, on -> on.stage(-1, 0));
         leavesAll("about(2, 0, 0)", "tape", ARGUMENT, on -> on.about(2, 0, 0));
-        leavesAll("about(0, 1, 5)", "tape", INDEX, on -> on.about(0, 1, 5));
+        leavesAll("about(0, 1, 6)", "tape", INDEX, on -> on.about(0, 1, 6));
         leavesAll("about(1, 10, 0)", "tape", INDEX, on -> on.about(1, 10, 0));
         leavesAll("byteOf(2, 0, 0)", "tape", ARGUMENT, on -> on.byteOf(2, 0, 0));
         leavesAll("byteOf(1, 4, 0)", "tape", INDEX, on -> on.byteOf(1, 4, 0));
