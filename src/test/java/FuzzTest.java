@@ -11,16 +11,19 @@ public final class FuzzTest {
     private static final int STYLE_MANY = 1;
     private static final int STYLE_GREAT = 2;
     private static final int STYLE_FORGE = 3;
+    private static final int STYLES = 4;
 
     private final Random chance;
     private final MailChain chain = new MailChain();
     private final Model model = new Model();
     private final List<String> calls = new ArrayList<>();
+    private final int style;
     private boolean wrong = false;
-    private int style = 0;
 
-    private FuzzTest(long seed) {
-        chance = new Random(seed);
+    /** Styles take turns: the first numbers by chance of neighbouring seeds are much alike. */
+    private FuzzTest(int run) {
+        chance = new Random(run);
+        style = run % STYLES;
     }
 
     public static void main(String[] args) {
@@ -62,7 +65,6 @@ public final class FuzzTest {
     }
 
     private void run() {
-        style = below(4);
         while (!wrong && calls.size() < MOST_CALLS) {
             int dice = below(100);
             int growing = style == STYLE_FORGE ? 20 : 75;
